@@ -895,7 +895,7 @@ public final class PlaitAndBreak {
         private void gather(Loops loops, Crossings crossings) {
             width = Math.min(crossings.arcs, MOST_ARCS);
             height = 0;
-            for (int number = 0; number < MOST_INNER; number++) {
+            for (int number = 0; number < MOST_INNER && height < MOST_INNER; number++) {
                 if (crossings.isHere(number)) {
                     int[] rule = rules[height];
                     height++;

@@ -278,6 +278,25 @@ public final class PromisesTest {
         due.is("9: parts", y.about(9), 4);
         due.is("9: faces", y.about(10), 5);
         due.is("9: arcs", y.about(11), 4);
+        // The same with all squares there may be.
+        PlaitAndBreak most = new PlaitAndBreak();
+        most.make(6, 6, 0, 0, 0);
+        for (int point = 0; point < 1200; point++) {
+            if (most.point(point) == 0) {
+                most.set(point, point / 100 % 2 == 1 ? 2 : 1);
+            }
+        }
+        int[] wants = {6, 6, 144, 60, 0, 30, 30, 0, 36, 36, 37, 36, 0};
+        for (int what = 0; what < wants.length; what++) {
+            due.is("9: a ring in each square, about(" + what + ")", most.about(what), wants[what]);
+        }
+        due.is("10: the last ring", most.loop(1111), 35);
+        due.is("11: the last ring", most.along(35, 1), 4);
+        due.is("12: the last ring", most.step(35, 9999), 1011);
+        due.is("13: the last ring", most.end(35, 9999), 1011);
+        due.is("19: a ring in each square", most.colours(7), 36);
+        due.is("20: one ring less", most.by(1110, 0), 35);
+        due.is("22: a ring in each square", most.one(), NONE);
         // Two loops, each of which crosses itself once.
         PlaitAndBreak z = Due.drawn("N22O12H21H23");
         due.is("9: loops of two eights", z.about(8), 2);
