@@ -321,6 +321,10 @@ public final class PlaitAndBreak {
         return index >= 0 && index < row.length;
     }
 
+    private static int at(int[] row, int index) {
+        return index >= 0 && index < row.length ? row[index] : NONE;
+    }
+
     /** THE TEXT. */
     private static final class Script {
         private int length;
@@ -467,11 +471,11 @@ public final class PlaitAndBreak {
         }
 
         private int pointOf(int number) {
-            return isIn(points, number) ? points[number] : NONE;
+            return at(points, number);
         }
 
         private int kindOf(int number) {
-            return isIn(kinds, number) ? kinds[number] : NONE;
+            return at(kinds, number);
         }
 
         private boolean isCrossing(int number) {
@@ -627,23 +631,23 @@ public final class PlaitAndBreak {
         }
 
         private int ownerAt(int step) {
-            return isIn(ownersBySteps, step) ? ownersBySteps[step] : NONE;
+            return at(ownersBySteps, step);
         }
 
         private int cellAt(int step) {
-            return isIn(cells, step) ? cells[step] : NONE;
+            return at(cells, step);
         }
 
         private int endAt(int step) {
-            return isIn(ends, step) ? ends[step] : NONE;
+            return at(ends, step);
         }
 
         private int rightAt(int step) {
-            return isIn(rightward, step) ? rightward[step] : NONE;
+            return at(rightward, step);
         }
 
         private int downAt(int step) {
-            return isIn(downward, step) ? downward[step] : NONE;
+            return at(downward, step);
         }
 
         private int firstStep(int loop) {
@@ -744,7 +748,7 @@ public final class PlaitAndBreak {
         }
 
         private int groupOf(int loop) {
-            return isIn(groups, loop) ? groups[loop] : NONE;
+            return at(groups, loop);
         }
 
         private void regroup(int from, int into) {
@@ -756,19 +760,19 @@ public final class PlaitAndBreak {
         }
 
         private int tieAt(int i) {
-            return isIn(tied, i) ? tied[i] : NONE;
+            return at(tied, i);
         }
 
         private int overAt(int number) {
-            return isIn(overs, number) ? overs[number] : NONE;
+            return at(overs, number);
         }
 
         private int underAt(int number) {
-            return isIn(unders, number) ? unders[number] : NONE;
+            return at(unders, number);
         }
 
         private int arcAt(int step) {
-            return isIn(arcsBySteps, step) ? arcsBySteps[step] : NONE;
+            return at(arcsBySteps, step);
         }
 
         private boolean isHere(int number) {
