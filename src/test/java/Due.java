@@ -45,17 +45,15 @@ final class Due {
         return x;
     }
 
-    /** Everything that an object answers, to see that a refused call changes nothing. */
+    /** What THE PLAIT and THE TEXT are: few calls, as an object is good for 512 of them. */
     static String all(PlaitAndBreak x) {
         StringBuilder told = new StringBuilder();
         for (int what = 0; what <= 12; what++) {
             told.append(x.about(what)).append(' ');
         }
         told.append(x.fault()).append(' ');
-        for (int y = 0; y <= 12; y++) {
-            for (int at = 0; at <= 12; at++) {
-                told.append(x.point(100 * y + at)).append(' ');
-            }
+        for (int point : Reference.innerPoints(x.about(0), x.about(1))) {
+            told.append(x.point(point)).append(' ');
         }
         return told.toString();
     }

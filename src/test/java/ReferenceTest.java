@@ -60,6 +60,7 @@ public final class ReferenceTest {
         String more = call + " some turned over, ";
         compareNumbers(more, copy(turned), turned);
         compareCells(more, copy(turned), turned);
+        compareAlong(more, copy(turned), turned);
         compareSteps(more, copy(turned), turned, random);
         comparePairs(more, copy(turned), turned);
         comparePoints(more, copy(turned), turned);
@@ -119,7 +120,7 @@ public final class ReferenceTest {
         }
     }
 
-    private static void compareSteps(String call, PlaitAndBreak x, Reference want, Random random) {
+    private static void compareAlong(String call, PlaitAndBreak x, Reference want) {
         for (int loop = 0; loop < want.loops.size(); loop++) {
             List<Integer> cells = want.loops.get(loop);
             int length = cells.size();
@@ -128,6 +129,13 @@ public final class ReferenceTest {
             for (int what = 0; what < along.length; what++) {
                 due.is(call + "along(" + loop + ", " + what + ")", x.along(loop, what), along[what]);
             }
+        }
+    }
+
+    private static void compareSteps(String call, PlaitAndBreak x, Reference want, Random random) {
+        for (int loop = 0; loop < want.loops.size(); loop++) {
+            List<Integer> cells = want.loops.get(loop);
+            int length = cells.size();
             for (int k = 0; k < length; k++) {
                 int later = k + length * random.nextInt((9999 - k) / length + 1);
                 due.is(call + "step(" + loop + ", " + later + ")", x.step(loop, later), cells.get(k));

@@ -12,7 +12,7 @@ public final class WildTest {
 
     public static void main(String[] args) {
         Random random = new Random(26);
-        for (int run = 0; run < 400; run++) {
+        for (int run = 0; run < 500; run++) {
             goWild(random);
         }
         due.end();
@@ -21,19 +21,16 @@ public final class WildTest {
     private static void goWild(Random random) {
         PlaitAndBreak x = new PlaitAndBreak();
         PlaitAndBreak twin = new PlaitAndBreak();
-        for (int i = 0; i < 512; i++) {
+        // With what is asked at last an object is asked 512 times at most.
+        for (int i = 0; i < 400; i++) {
             int call = random.nextInt(CALLS);
             int a = argument(random);
             int b = argument(random);
             long v = random.nextInt(3) == 0 ? typed(random) : random.nextLong();
             boolean small = random.nextBoolean();
-            boolean looked = i % 16 == 0;
-            String before = looked ? Due.all(x) : "";
             int got = ask(x, call, a, b, v, small);
             if (changes(call) && got != -1 && got != -2 && got != -3 && got != -4) {
                 due.is("twin, call " + call, ask(twin, call, a, b, v, small), got);
-            } else if (looked) {
-                due.isTrue("call " + call + " of " + a + ", " + b + " changes nothing", before.equals(Due.all(x)));
             }
         }
         due.isTrue("twin is like it", Due.all(x).equals(Due.all(twin)));
