@@ -5,12 +5,14 @@ import java.util.List;
 final class Colourings {
     private Colourings() { }
 
-    static long count(PlaitAndBreak x, int p) {
+    /** As the object tells it; each part is asked of a new object, as one is good for 512 calls. */
+    static long count(String text, int p) {
+        PlaitAndBreak x = Due.drawn(text);
         int[] arcOfCell = new int[1200];
         List<int[]> passes = new ArrayList<>(); // point, arc before, arc behind
         int arcs = 0;
         for (int loop = 0; loop < x.about(8); loop++) {
-            arcs = goAlong(x, loop, arcs, arcOfCell, passes);
+            arcs = goAlong(Due.drawn(text), loop, arcs, arcOfCell, passes);
         }
         if (arcs != x.about(11)) {
             return -1;

@@ -420,6 +420,17 @@ public final class LoopEdgesTest {
                 due.is("19: twisted " + n + " times, round " + p, x.colours(p), n % p == 0 ? 2 : 1);
             }
         }
+        // What was asked before does not count: all of them on one object, there and back.
+        int[] order = {6, 5, 4, 3, 2, 1, 2, 3, 4, 5, 6, 3, 5};
+        PlaitAndBreak one = new PlaitAndBreak();
+        for (int n : order) {
+            one.wipe();
+            Due.type(one, texts[n - 1]);
+            one.plait();
+            for (int p = 7; p >= 3; p -= 2) {
+                due.is("19: then " + n + " times, round " + p, one.colours(p), n % p == 0 ? 2 : 1);
+            }
+        }
     }
 
     // PARTS, and FACES: "CROSSINGS and 1 and PARTS".

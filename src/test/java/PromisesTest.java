@@ -281,10 +281,8 @@ public final class PromisesTest {
         // The same with all squares there may be.
         PlaitAndBreak most = new PlaitAndBreak();
         most.make(6, 6, 0, 0, 0);
-        for (int point = 0; point < 1200; point++) {
-            if (most.point(point) == 0) {
-                most.set(point, point / 100 % 2 == 1 ? 2 : 1);
-            }
+        for (int point : Reference.innerPoints(6, 6)) {
+            most.set(point, point / 100 % 2 == 1 ? 2 : 1);
         }
         int[] wants = {6, 6, 144, 60, 0, 30, 30, 0, 36, 36, 37, 36, 0};
         for (int what = 0; what < wants.length; what++) {

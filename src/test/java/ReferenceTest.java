@@ -225,7 +225,7 @@ public final class ReferenceTest {
         for (String text : texts) {
             PlaitAndBreak x = Due.drawn(text);
             for (int p = 3; p <= 7; p += 2) {
-                long ways = Colourings.count(x, p);
+                long ways = Colourings.count(text, p);
                 long told = 1;
                 for (int i = x.colours(p); i > 0; i--) {
                     told *= p;
