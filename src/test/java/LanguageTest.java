@@ -4,7 +4,10 @@ import java.lang.reflect.Method;
 import java.lang.reflect.Modifier;
 import java.nio.file.Files;
 import java.nio.file.Path;
+import java.util.HashMap;
 import java.util.HashSet;
+import java.util.List;
+import java.util.Map;
 import java.util.Set;
 import java.util.TreeSet;
 import java.util.regex.Matcher;
@@ -22,7 +25,7 @@ public final class LanguageTest {
         "\\bthrow\\b", "\\bthrows\\b", "\\btry\\b", "\\bcatch\\b", "\\bfinally\\b", "\\bsynchronized\\b", "\\bassert\\b",
         "->", "::", "\\binstanceof\\b", "\\bpackage\\b", "Exact\\b", "\\bhashCode\\b", "\\btoString\\b", "\\bequals\\b",
         "System\\.(?!arraycopy)", "\\bThread\\b", "\\bRandom\\b", "\\bMath\\.random\\b", "static\\s*\\{", "\\bprotected\\b",
-        "\\bvolatile\\b", "\\btransient\\b", "\\bnative\\b", "\\bfloat\\b", "\\bdouble\\b", "\\bObject\\b", "@"};
+        "\"", "\\bvolatile\\b", "\\btransient\\b", "\\bnative\\b", "\\bfloat\\b", "\\bdouble\\b", "\\bObject\\b", "@"};
     private static final Due due = new Due();
 
     public static void main(String[] args) throws Exception {
@@ -32,6 +35,7 @@ public final class LanguageTest {
             due.isTrue("no " + word, !Pattern.compile(word).matcher(code).find());
         }
         imports(code);
+        library(code);
         methods(code);
         due.end();
     }
@@ -96,10 +100,18 @@ public final class LanguageTest {
         }
     }
 
+    private static void library(String code) {
+        Matcher found = Pattern.compile("\\b(Arrays|System|Math|Integer|Long|String)\\.\\w+").matcher(code);
+        while (found.find()) {
+            due.isTrue(found.group(), Set.of("Arrays.fill", "System.arraycopy", "Math.min", "Math.max").contains(found.group()));
+        }
+    }
+
     // Methods are told by how far they stand in: their end stands in as their beginning does.
     private static void methods(String code) {
+        Map<String, String> bodies = new HashMap<>();
         String[] lines = code.split("\n", -1);
-        Pattern head = Pattern.compile("^( {4}| {8})(public|private)[^=;]*\\(.*\\) \\{$");
+        Pattern head = Pattern.compile("^( {4}| {8})(public|private)[^=;(]*\\b(\\w+)\\(.*\\) \\{$");
         for (int i = 0; i < lines.length; i++) {
             Matcher found = head.matcher(lines[i]);
             if (found.find()) {
@@ -108,8 +120,30 @@ public final class LanguageTest {
                     end++;
                 }
                 due.isTrue(lines[i].trim() + " is short", end - i <= 60);
+                String body = String.join("\n", List.of(lines).subList(i + 1, end));
+                due.isTrue(found.group(3) + " is one method alone", bodies.put(found.group(3), body) == null);
             }
         }
+        due.isTrue("methods are found", bodies.size() > 25);
+        for (String name : bodies.keySet()) {
+            // What the library does is one call deeper.
+            due.isTrue("calls from " + name + " go eight deep at most", depth(bodies, name, 0) < 8);
+        }
+    }
+
+    // A method that calls itself, by others too, is deeper than any bound.
+    private static int depth(Map<String, String> bodies, String name, int above) {
+        if (above > 20) {
+            return above;
+        }
+        int below = 0;
+        Matcher called = Pattern.compile("\\b(\\w+)\\(").matcher(bodies.get(name));
+        while (called.find()) {
+            if (bodies.containsKey(called.group(1))) {
+                below = Math.max(below, depth(bodies, called.group(1), above + 1));
+            }
+        }
+        return below + 1;
     }
 
     private static String withoutComments(String code) {
